@@ -20,14 +20,14 @@ public final class PromiseTailor {
 
     private final Text peopleText = new Text(PEOPLE_BYTES, false);
     private final Text promisesText = new Text(PROMISES_BYTES, true);
-    private final Folk folk = new Folk();
-    private final Vows vows = new Vows();
-    private final Told keepings = new Told(MOST_KEEPINGS);
-    private final Told lies = new Told(MOST_LIES);
-    private final Told lettings = new Told(MOST_LETTINGS);
+    private final Course course = new Course();
+    private final Folk folk = course.folk;
+    private final Vows vows = course.vows;
+    private final Told keepings = course.keepings;
+    private final Told lies = course.lies;
+    private final Told lettings = course.lettings;
     private final Told sightings = new Told(MOST_SEEN);
     private final Told drawn = new Told(MOST_KEEPINGS);
-    private final Course course = new Course(folk, vows, lies, lettings);
     private final Sheets sheets = new Sheets();
     private final int[][] coatBySize = new int[SIZES][DAYS];
     private int latestFinding = 0;
@@ -880,11 +880,11 @@ public final class PromiseTailor {
         static final int MAKING = 0, KEEPING = 1, BREAKING = 2, LYING = 3, LETTING = 4, KINDS = 5;
         // the PROMISES of a plan twice, and the rows of KEEPINGS, LIES and LETTINGS
         static final int MOST_ACTS = 2 * (MOST_PROMISES + 1) + 3 * Told.ROWS;
-        final Folk folk;
-        final Vows vows;
-        final Told lies;
-        final Told lettings;
-        Told keepings;
+        final Folk folk = new Folk();
+        final Vows vows = new Vows();
+        final Told keepings = new Told(MOST_KEEPINGS);
+        final Told lies = new Told(MOST_LIES);
+        final Told lettings = new Told(MOST_LETTINGS);
         final int[] keys = new int[MOST_ACTS];
         final int[] subjects = new int[MOST_ACTS];
         final int[] lengths = new int[MOST_PEOPLE];
@@ -892,20 +892,15 @@ public final class PromiseTailor {
         final int[] standing = new int[MOST_PROMISES + 1];
         int acts = 0;
         int next = 0;
+        // bits of KEEPINGS and LIES that are left out
         int unkept = 0;
         int hushed = 0;
-
-        Course(Folk folk, Vows vows, Told lies, Told lettings) {
-            this.folk = folk;
-            this.vows = vows;
-            this.lies = lies;
-            this.lettings = lettings;
-            this.keepings = lies;
-        }
+        // KEEPINGS as told, or those that a year by a seed has in their place
+        Told chosen = keepings;
 
         /** Puts all acts in their order; what is of nobody, or of no PROMISE that is there, never comes to pass. */
         void arrange(Told kept) {
-            keepings = kept;
+            chosen = kept;
             acts = 0;
             unkept = 0;
             hushed = 0;
@@ -917,9 +912,9 @@ public final class PromiseTailor {
                     }
                 }
             }
-            for (int i = 0; i < keepings.size; i++) {
-                if (vows.has(keepings.subjects[i])) {
-                    enter(keepings.days[i], KEEPING, i);
+            for (int i = 0; i < chosen.size; i++) {
+                if (vows.has(chosen.subjects[i])) {
+                    enter(chosen.days[i], KEEPING, i);
                 }
             }
             enterAll(lies, LYING);
@@ -969,7 +964,7 @@ public final class PromiseTailor {
                         break;
                     case KEEPING:
                         if ((unkept >> subject & 1) == 0) {
-                            fulfil(keepings.subjects[subject]);
+                            fulfil(chosen.subjects[subject]);
                         }
                         break;
                     case BREAKING:

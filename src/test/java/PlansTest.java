@@ -33,6 +33,11 @@ public final class PlansTest {
         Check.due("swear(-1, 0)", x.swear(-1, 0), Check.BAD);
         Check.due("swear(0, -1)", x.swear(0, -1), Check.BAD);
         Check.due("swear(0, 24)", x.swear(0, 24), Check.BAD);
+        PromiseTailor most = Check.town("a9", "");
+        most.lie(0, 0, 9);
+        Check.due("swear 9", most.swear(0, 5), 9);
+        most.lie(1, 0, 1);
+        Check.due("swear no more than 9", most.swear(0, 5), Check.NONE);
         PromiseTailor full = Check.town("a9", "a1xx;a1xx;a1xx;a1xx;a1xx;a1xx;a1xx;a1xx;a1xx;a1xx");
         full.lie(0, 0, 7);
         Check.due("swear behind ten", full.swear(0, 5), 7);

@@ -102,6 +102,20 @@ public final class SeenTest {
         // day 0: sizes 0 to 3 are 0; seen: 0 to 7
         Check.due("was(0, 0)", y.was(0, 0), 255);
         Check.due("day 0: four alike", y.ask(0), 0);
+        PromiseTailor few = Check.town("a5", "a3bx");
+        few.lie(0, 0, 1);
+        few.keeping(2, 0);
+        few.seen(0, 0, 0);
+        // sizes 0 and 1 are alike on days 0 and 1, not on day 2: 0 and 1
+        Check.due("was(0, 0)", few.was(0, 0), 3);
+        Check.due("two sizes", few.ask(0), 2);
+        PromiseTailor one = Check.town("a3", "a9bx");
+        one.lie(0, 0, 9);
+        one.keeping(2, 0);
+        one.seen(2, 0, 3);
+        // other sizes are as long on days 0 and 1, but they are out already
+        Check.due("was(0, 0)", one.was(0, 0), 8);
+        Check.due("one size: all days are alike", one.ask(0), 0);
         PromiseTailor later = Check.town("a5", "a9aa;a9cx");
         later.keeping(4, 1);
         // day 0: size + 9 + 0 - 11: 0, 1, 2 are alike, day 4: towards size
@@ -175,6 +189,7 @@ public final class SeenTest {
         Check.due("due on day 13", early.year(1, 1, 0), 1);
         Check.due("it does not fit", early.year(1, 1, 1), 0);
         Check.due("year of a seed below 0", early.year(Integer.MIN_VALUE, 8, 0), early.year(Integer.MIN_VALUE, 8, 0));
+        lots(1, 14, 38526);
         PromiseTailor none = Check.town("a5", "");
         Check.due("no promises", none.year(1, 8, 0), 0);
         Check.due("no promises", none.year(1, 8, 1), 1);
@@ -185,5 +200,19 @@ public final class SeenTest {
         Check.due("year(1, 0, -1)", none.year(1, 0, -1), Check.BAD);
         Check.due("year(1, 0, 2)", none.year(1, 0, 2), Check.BAD);
         Check.due("keepings stay", x.count(4), 1);
+    }
+
+    /** The first KEEPING of a seed is on a day, of the promise that is its second lot modulo how many there are. */
+    private static void lots(int seed, int day, int lot) {
+        for (int many = 1; many <= 10; many++) {
+            int kept = lot % many;
+            PromiseTailor x = Check.town("a0", "");
+            for (int i = 0; i < many; i++) {
+                // that one can be kept on that day alone, the others never
+                String days = i == kept ? "" + (char) ('a' + day) + (char) ('a' + day) : "aa";
+                Check.typeAll(x, 1, (i == 0 ? "a1" : ";a1") + days);
+            }
+            Check.due("day " + day + ", promise " + kept + " of " + many, x.year(seed, 1, 0), many - 1);
+        }
     }
 }

@@ -111,6 +111,9 @@ public final class ToldTest {
         Check.due("read comes behind those told", x.count(4), 4);
         fill(x, 0, 1, 23, 9, 0, 10, 1, 1);
         Check.due("read ends ahead of a bad promise", x.read(0), 1);
+        fill(x, 0, 2, 23, 9);
+        Check.due("read of an even row", x.read(0), 1);
+        x.back(0);
         fill(x, 0, 1, 3, -1, 1, 1);
         Check.due("read ends at once", x.read(0), 0);
         fill(x, 0, 0, 1, 1, 2, 2, 3, 3, 4, 4, 5, 5);
