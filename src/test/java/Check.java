@@ -27,8 +27,9 @@ final class Check {
     }
 
     static void typeAll(PromiseTailor x, int text, String bytes) {
+        int had = x.count(2 + text);
         for (int i = 0; i < bytes.length(); i++) {
-            due("type(" + text + ", " + (int) bytes.charAt(i) + ")", x.type(text, bytes.charAt(i)), x.count(2 + text));
+            due("type(" + text + ", " + (int) bytes.charAt(i) + ")", x.type(text, bytes.charAt(i)), had + i + 1);
         }
     }
 
