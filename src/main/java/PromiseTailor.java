@@ -377,7 +377,7 @@ public final class PromiseTailor {
             }
         }
         // below is a power of two, so halving both is all there is to lowest terms
-        while (below > 1 && (above & 1) == 0) {
+        for (int i = 0; i < 4 * MOST_KEEPINGS && below > 1 && (above & 1) == 0; i++) {
             above >>= 1;
             below >>= 1;
         }

@@ -16,6 +16,7 @@ public final class EdgesOfDaysTest {
         lies();
         lettings();
         oneBehindTheOther();
+        allRoomsFull();
         ninetyNineAtMost();
         ninetyNineByLettings();
         fits();
@@ -296,6 +297,23 @@ public final class EdgesOfDaysTest {
             // 17 less 7 less 11
             length(x, "without the KEEPING", day, 0);
         }
+    }
+
+    private static void allRoomsFull() {
+        Edge.sentence(13, "On a DAY, one behind the other");
+        PromiseTailor x = Towns.allComesToPass();
+        int[] days = {0, 4, 5, 9, 10, 11, 12, 22, 23};
+        int[] two = {15, 15, 12, 12, 8, 8, 8, 8, 3};
+        int[] next = {12, 12, 9, 9, 5, 5, 6, 6, 6};
+        int[] seventh = {12, 12, 9, 9, 9, 9, 10, 10, 10};
+        int[] last = {12, 12, 9, 9, 9, 9, 11, 11, 11};
+        for (int i = 0; i < days.length; i++) {
+            for (int person = 0; person < 8; person++) {
+                int want = person < 2 ? two[i] : person < 6 ? next[i] : person == 6 ? seventh[i] : last[i];
+                Edge.due(Edge.told("coat", days[i], person, 0), x.coat(days[i], person, 0), want);
+            }
+        }
+        Edge.due("SPLITS in all", x.splits(), 2);
     }
 
     private static void ninetyNineAtMost() {

@@ -72,6 +72,11 @@ public final class EdgesOfPlansTest {
         Edge.due("behind ten others", ten.swear(0, 22), 4);
         ten.keeping(1, 9);
         Edge.due("a KEEPING of the tenth keeps the tenth", ten.swear(0, 22), 4);
+        PromiseTailor full = Towns.allComesToPass();
+        int[] wants = {1, 1, 3, 3, 3, 3, Check.NONE, Check.NONE};
+        for (int person = 0; person < 8; person++) {
+            Edge.due("with all rooms full, of PERSON " + person, full.swear(person, 22), wants[person]);
+        }
         PromiseTailor most = Check.town("s9", "a9ax;a9ax;a9ax;a9ax;a9ax;a9ax");
         most.lie(22, 0, 9);
         Edge.due("99 at most, and far from SIZE", most.swear(0, 22), Check.NONE);
@@ -150,6 +155,9 @@ public final class EdgesOfPlansTest {
         Edge.due("with no room: which", x.keep(4, 0), 0);
         Edge.due("KEEPINGS", x.count(4), 8);
         Edge.due("there still is no room", x.keeping(0, 0), Check.FULL);
+        PromiseTailor full = Towns.allComesToPass();
+        Edge.due("with all rooms full: which", full.keep(9, 0), 0);
+        Edge.due("with all rooms full: how many", full.keep(9, 1), 1);
         PromiseTailor due = Check.town("a5", "a2ce");
         for (int day = 0; day < 24; day++) {
             Edge.due("MADE on DAY 2, DUE on DAY 4, on DAY " + day, due.keep(day, 1), day >= 2 && day <= 4 ? 1 : 0);

@@ -232,6 +232,17 @@ public final class EdgesOfSeenTest {
         Edge.due("those two alone", pair.ask(0), 23);
         pair.seen(0, 0, 1);
         Edge.due("none of the SIZES: 0 on all DAYS", pair.ask(0), 0);
+        PromiseTailor one = Check.town("a3", "a9bx");
+        one.lie(0, 0, 9);
+        one.keeping(2, 0);
+        one.seen(2, 0, 3);
+        // SIZE 3 alone is left, and by others the COAT is as long until DAY 1
+        Edge.due("other SIZES do not count", one.ask(0), 0);
+        PromiseTailor again = Check.town("a5", "");
+        again.lie(0, 0, 2);
+        again.letting(1, 0, 5);
+        // 0, 1 and 2 are alike on all DAYS, 0 long and 5 long
+        Edge.due("SIZE 0 counts", again.ask(0), 0);
         PromiseTailor groups = Check.town("a5", "");
         groups.lie(0, 0, 3);
         groups.lie(4, 0, 2);

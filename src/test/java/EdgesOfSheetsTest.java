@@ -1,4 +1,5 @@
 import java.math.BigInteger;
+import java.util.Random;
 
 /** Promises 31 to 38 at their edges, sentence by sentence: sheet, lose, put, get, copy, write, count, digest. */
 public final class EdgesOfSheetsTest {
@@ -504,6 +505,27 @@ public final class EdgesOfSheetsTest {
         return h;
     }
 
+    private static PromiseTailor townByChance(Random random) {
+        int people = 1 + random.nextInt(4);
+        StringBuilder first = new StringBuilder();
+        StringBuilder second = new StringBuilder();
+        for (int i = 0; i < people; i++) {
+            first.append(i == 0 ? "" : ";").append("msa".charAt(random.nextInt(3))).append(random.nextInt(10));
+        }
+        for (int i = 1 + random.nextInt(10); i > 0; i--) {
+            int made = random.nextInt(16);
+            second.append((char) ('a' + random.nextInt(people))).append(1 + random.nextInt(9)).append((char) ('a' + made));
+            second.append((char) ('a' + made + random.nextInt(24 - made))).append(i == 1 ? "" : ";");
+        }
+        PromiseTailor x = Check.town(first.toString(), second.toString());
+        for (int i = random.nextInt(5); i > 0; i--) {
+            x.keeping(random.nextInt(24), random.nextInt(10));
+            x.lie(random.nextInt(24), random.nextInt(people), 1 + random.nextInt(4));
+            x.letting(random.nextInt(24), random.nextInt(people), 1 + random.nextInt(4));
+        }
+        return x;
+    }
+
     private static void digest() {
         Edge.sentence(38, "of PROMISES promise() 0 to 3, stands(8, it), stands(23, it), due() 0, 1; of PEOPLE person() 0, 1,"
             + " of DAYS 0, 6, 14, 23 coat(the DAY, it, 0 to 2), then swear(it, 14), was() 0, 1, ask(), word(5, it, 14), above, below;"
@@ -512,6 +534,12 @@ public final class EdgesOfSheetsTest {
         Edge.due("of PEOPLE alone", Check.town("m4;s3;a5", "").digest(), expected(Check.town("m4;s3;a5", "")));
         Edge.due("of PROMISES alone", Check.town("", "a9ad;b4bf").digest(), expected(Check.town("", "a9ad;b4bf")));
         Edge.due("with FAULTS", Check.town("m4;", "a9ad;").digest(), expected(Check.town("m4;", "a9ad;")));
+        Edge.due("of what may be KEPT on DAY 8 alone", Check.town("a5", "a2ii").digest(), expected(Check.town("a5", "a2ii")));
+        Random random = new Random(38);
+        for (int i = 0; i < 60; i++) {
+            PromiseTailor x = townByChance(random);
+            Edge.due("of town " + i + " by chance", x.digest(), expected(x));
+        }
         Edge.sentence(38, "h is 17; h becomes 31 h and each of: count() 0 to 7; of texts fault()");
         for (Edge.Making making : Towns.ALL) {
             Edge.due("digest()", making.make().digest(), expected(making.make()));

@@ -126,6 +126,16 @@ public final class EdgesOfTextsTest {
         PromiseTailor full = Towns.FULL.make();
         Edge.due("undo(0) of a full text", full.undo(0), 22);
         Edge.due("undo(1) of a full text", full.undo(1), 48);
+        PromiseTailor two = Check.town("m1;s2", "a1bc;b2de");
+        int[] people = {0, 0, 1, 0, 0};
+        for (int left = 4; left >= 0; left--) {
+            Edge.due("undo(0)", two.undo(0), left);
+            Edge.due("how many PEOPLE are left", two.count(0), people[left]);
+        }
+        for (int left = 8; left >= 0; left--) {
+            Edge.due("undo(1)", two.undo(1), left);
+            Edge.due("how many PROMISES are left", two.count(1), left == 4 ? 1 : 0);
+        }
         Edge.sentence(4, "NOT: it is empty.");
         Edge.Call undo = (y, n) -> y.undo(n[0]);
         Edge.refused(Towns.EMPTY, "undo", undo, Check.NOT, 0);

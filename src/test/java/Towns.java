@@ -49,6 +49,22 @@ final class Towns {
         return x;
     }
 
+    /**
+     * As many as there may be of PEOPLE, PROMISES, KEEPINGS, LIES and LETTINGS, and each of them comes to pass: all are
+     * aldermen of SIZE 9 with a PROMISE of 3, and the first two with another, that is BROKEN on DAY 23.
+     */
+    static PromiseTailor allComesToPass() {
+        PromiseTailor x = Check.town("a9;a9;a9;a9;a9;a9;a9;a9", "a3ax;b3ax;c3ax;d3ax;e3ax;f3ax;g3ax;h3ax;a3ax;b3ax");
+        for (int i = 0; i < 8; i++) {
+            Check.due("keeping", x.keeping(5, i), i + 1);
+        }
+        for (int i = 0; i < 6; i++) {
+            Check.due("lie", x.lie(10, i, 4), i + 1);
+            Check.due("letting", x.letting(12, 2 + i, i == 5 ? 2 : 1), i + 1);
+        }
+        return x;
+    }
+
     /** A SHEET becomes a row of a FORM with these items. */
     static void fill(PromiseTailor x, int s, int form, int... items) {
         Check.due("sheet", x.sheet(s, form, items.length), items.length);
