@@ -21,6 +21,7 @@ public final class EdgesOfDaysTest {
         ninetyNineByLettings();
         fits();
         splitsByThen();
+        behindADay();
         coatRefused();
         standsAtEachDay();
         neat();
@@ -377,6 +378,19 @@ public final class EdgesOfDaysTest {
         }
     }
 
+    private static void behindADay() {
+        Edge.sentence(13, "Behind a DAY of a PERSON: how long the COAT is; whether it FITS; how often it has SPLIT by then.");
+        PromiseTailor x = Check.town("m9;s3", "b2be");
+        x.letting(5, 1, 1);
+        x.lie(6, 1, 2);
+        int[][] due = {{3, 1, 0}, {7, 0, 0}, {7, 0, 0}, {7, 0, 0}, {3, 1, 1}, {4, 1, 1}, {2, 0, 1}, {2, 0, 1}};
+        for (int day = 0; day < due.length; day++) {
+            for (int what = 0; what < 3; what++) {
+                Edge.due(Edge.told("coat", day, 1, what), x.coat(day, 1, what), due[day][what]);
+            }
+        }
+    }
+
     private static void coatRefused() {
         Edge.sentence(13, "BAD.");
         Edge.Call coat = (x, n) -> x.coat(n[0], n[1], n[2]);
@@ -427,6 +441,17 @@ public final class EdgesOfDaysTest {
         Edge.due("1 longer", seven.neat(22), 3);
         Edge.due("1 shorter", seven.neat(23), 2);
         Edge.due("of nobody", new PromiseTailor().neat(23), 0);
+        Edge.sentence(15, "NEAT, as bits.");
+        for (int bits = 0; bits < 256; bits++) {
+            // those of whom nothing is promised
+            StringBuilder promises = new StringBuilder();
+            for (int person = 0; person < 8; person++) {
+                if ((bits >> person & 1) == 0) {
+                    promises.append(promises.length() == 0 ? "" : ";").append((char) ('a' + person)).append("2ax");
+                }
+            }
+            Edge.due("of " + promises, Check.town("a9;a9;a9;a9;a9;a9;a9;a9", promises.toString()).neat(22), bits);
+        }
         Edge.sentence(15, "BAD.");
         Edge.Call neat = (y, n) -> y.neat(n[0]);
         for (Edge.Making making : Towns.ALL) {
@@ -451,6 +476,14 @@ public final class EdgesOfDaysTest {
         Edge.due("ahead of the last DAY", y.naked(22), 0);
         Edge.due("behind the last DAY", y.naked(23), 2);
         Edge.due("of nobody", new PromiseTailor().naked(0), 0);
+        Edge.sentence(16, "NAKED, as bits.");
+        for (int bits = 0; bits < 256; bits++) {
+            StringBuilder people = new StringBuilder();
+            for (int person = 0; person < 8; person++) {
+                people.append(person == 0 ? "m" : ";m").append(1 - (bits >> person & 1));
+            }
+            Edge.due("of " + people, Check.town(people.toString(), "").naked(0), bits);
+        }
         Edge.sentence(16, "BAD.");
         Edge.Call naked = (z, n) -> z.naked(n[0]);
         for (Edge.Making making : Towns.ALL) {
@@ -523,6 +556,17 @@ public final class EdgesOfDaysTest {
         Edge.due("the two last DAYS", last.best(), 22);
         last.lie(22, 1, 1);
         Edge.due("one on each DAY", last.best(), 0);
+        Edge.sentence(19, "BEST; NONE.");
+        for (int day = 0; day < 24; day++) {
+            PromiseTailor x = Check.town("a5", "");
+            x.lie(0, 0, 9);
+            x.letting(day, 0, 6);
+            Edge.due("it FITS from DAY " + day + " on", x.best(), day);
+            x.undo(0);
+            Edge.due("nobody is there now", x.best(), Check.NONE);
+            Check.typeAll(x, 0, "4");
+            Edge.due("6 long, of SIZE 4, and never FITS", x.best(), 0);
+        }
         Edge.sentence(19, "of like ones the least; NONE: nobody is there.");
         Edge.due("of nothing", new PromiseTailor().best(), Check.NONE);
         Edge.due("of nobody with PROMISES", Check.town("", "a9ax").best(), Check.NONE);

@@ -12,10 +12,12 @@ public final class EdgesOfSeenTest {
         forget();
         neverOfNone();
         neverEach();
+        neverBits();
         wasSizes();
         wasSorts();
         wasRefused();
         ask();
+        askOfEachDay();
         askRefused();
         wordAtTheEnds();
         wordInLowestTerms();
@@ -145,6 +147,19 @@ public final class EdgesOfSeenTest {
         Edge.due("SEEN behind DAY 23", last.never(), 1);
     }
 
+    private static void neverBits() {
+        Edge.sentence(26, "NEVER, as bits.");
+        for (int bits = 0; bits < 256; bits++) {
+            PromiseTailor x = Check.town("a0", "a1ax;a1ax;a1ax;a1ax;a1ax;a1ax;a1ax;a1ax");
+            // those of a PROMISE that is not there change nothing, and without one of the others the COAT is 1 longer
+            for (int i = 0; i < 8; i++) {
+                x.keeping(i, (bits >> i & 1) == 1 ? 9 : i);
+            }
+            x.seen(22, 0, Integer.bitCount(bits));
+            Edge.due("KEEPINGS that change nothing", x.never(), bits);
+        }
+    }
+
     private static void wasSizes() {
         Edge.sentence(27, "SIZES of a PERSON: 0 to 9, in place of its own, likewise, as bits.");
         for (int size = 0; size <= 9; size++) {
@@ -253,6 +268,20 @@ public final class EdgesOfSeenTest {
         later.keeping(3, 0);
         // 0 to 5 are alike, 2 long on DAY 2; towards SIZE by 2: 0, 1, 2, 3, 4, 4 on DAY 3, and 6 is 3 less 0: 5
         Edge.due("the KEEPING parts them", later.ask(0), 3);
+    }
+
+    private static void askOfEachDay() {
+        Edge.sentence(28, "ASK.");
+        for (int day = 1; day < 24; day++) {
+            PromiseTailor x = Check.town("m3;a5", "b9" + (char) ('a' + day) + "a");
+            x.lie(0, 1, 9);
+            x.keeping(day, 0);
+            // 0 long by all SIZES, then 9, then as long as SIZE
+            Edge.due("SIZES are parted on DAY " + day, x.ask(1), day);
+            Edge.due("of another PERSON", x.ask(0), 0);
+            x.seen(day, 1, 7);
+            Edge.due("one of them is left", x.ask(1), 0);
+        }
     }
 
     private static void askRefused() {

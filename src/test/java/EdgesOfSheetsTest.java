@@ -32,6 +32,7 @@ public final class EdgesOfSheetsTest {
         writeRefused();
         count();
         countLatestFinding();
+        refusalsChangeNothing();
         digest();
         digestAtTheEnds();
         Edge.end(31, 38);
@@ -471,6 +472,33 @@ public final class EdgesOfSheetsTest {
         }
         x.keeping(0, 0);
         Edge.due("behind FULL too", x.count(8), 1);
+    }
+
+    private static void refusedInARow(Edge.Making making, long[] answers, long finding, Edge.Call... calls) {
+        PromiseTailor x = making.make();
+        for (int i = 0; i < calls.length; i++) {
+            Edge.due("refused call " + i, calls[i].on(x), answers[i]);
+        }
+        Edge.due("count(8) behind them", x.count(8), finding);
+        Edge.same("all that is held behind them", Edge.allButFinding(x), Edge.allButFinding(making.make()));
+    }
+
+    /** Many refusals one behind the other, as each by itself is held to at its own act. */
+    private static void refusalsChangeNothing() {
+        Edge.sentence(37, "They change nothing (FINDINGS but count() 8).");
+        refusedInARow(Towns.EMPTY, new long[] {-3, -3, -3, -3, -3, -2, -2, Long.MIN_VALUE + 2, -2, -2}, 0,
+            (x, n) -> x.undo(0), (x, n) -> x.undo(1), (x, n) -> x.back(0), (x, n) -> x.back(1), (x, n) -> x.back(2),
+            (x, n) -> x.person(0, 0), (x, n) -> x.write(0, 0), (x, n) -> x.word(0, 0, 0, 0), (x, n) -> x.year(0, 9, 0), (x, n) -> x.count(9));
+        refusedInARow(Towns.EMPTY, new long[] {-11, -11, LEAST, -11, -11, -15, -2}, 5,
+            (x, n) -> x.read(0), (x, n) -> x.lose(1), (x, n) -> x.get(2, 0, 0), (x, n) -> x.put(3, 0, 0, 1), (x, n) -> x.copy(0, 0, 1, 0, 1),
+            (x, n) -> x.sheet(0, 0, -1), (x, n) -> x.sheet(0, 0, 61));
+        refusedInARow(Towns.FULL, new long[] {-4, -4, -4, -4, -4, -4, -2, -2, -2, -2, -2}, 5,
+            (x, n) -> x.type(0, ';'), (x, n) -> x.type(1, ';'), (x, n) -> x.keeping(0, 0), (x, n) -> x.lie(0, 0, 1),
+            (x, n) -> x.letting(0, 0, 1), (x, n) -> x.seen(0, 0, 0), (x, n) -> x.type(0, 256), (x, n) -> x.keeping(0, 10),
+            (x, n) -> x.lie(0, 8, 1), (x, n) -> x.letting(24, 0, 1), (x, n) -> x.seen(0, 0, 100));
+        refusedInARow(Towns.FULL, new long[] {-13, -12, -14, -12, -12, LEAST, LEAST, -2}, 3,
+            (x, n) -> x.put(0, 1, 0, 1), (x, n) -> x.put(0, 0, 60, 1), (x, n) -> x.copy(0, 0, 1, 0, 1), (x, n) -> x.copy(2, 0, 2, 1, 60),
+            (x, n) -> x.copy(2, 0, 3, 0, 1), (x, n) -> x.get(0, 0, -1), (x, n) -> x.get(0, 2, 0), (x, n) -> x.write(8, 0));
     }
 
     private static long h;
